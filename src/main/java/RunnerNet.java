@@ -858,10 +858,11 @@ public final class RunnerNet {
         }
 
         private void begin() {
+            Arrays.fill(left, ENDLESS);
             for (int row = 0; row < sure.length; row++) {
                 sure[row] = settings.placesOf(row);
-                for (int p = 0; p < MOST_PLACES; p++) {
-                    left[row * MOST_PLACES + p] = has(sure[row], p) ? 0 : ENDLESS;
+                for (int hunter = 0; hunter < settings.hunters(); hunter++) {
+                    left[row * MOST_PLACES + settings.figure(row, hunter)] = 0;
                 }
             }
         }
@@ -882,23 +883,30 @@ public final class RunnerNet {
 
         /** Joins to each row what is trapped in all rows to which one hunter's step leads. */
         private void widen(int hunter) {
-            int shift = 3 * (settings.hunters() - 1 - hunter);
-            for (int row = 0; row < widened.length; row++) {
-                if (!settings.isRow(row)) {
-                    continue;
-                }
-                int place = settings.figure(row, hunter);
-                int reached = net.outOf(place);
-                int joined = 0;
-                for (int p = 0; p < MOST_PLACES; p++) {
-                    int next = row + (p - place << shift);
-                    if (has(reached, p) && next >= 0 && next < trapped.length) {
-                        joined |= trapped[next];
+            int unit = 1 << 3 * (settings.hunters() - 1 - hunter);
+            Arrays.fill(widened, 0);
+            for (int from = 0; from < net.places(); from++) {
+                int reached = net.outOf(from);
+                for (int to = 0; to < net.places(); to++) {
+                    if (has(reached, to)) {
+                        joinRows(from, to, unit);
                     }
                 }
-                widened[row] = joined;
             }
             System.arraycopy(widened, 0, trapped, 0, Math.min(widened.length, trapped.length));
+        }
+
+        /** For all rows of the other hunters; the one who steps has the figure of this unit. */
+        private void joinRows(int from, int to, int unit) {
+            int last = Math.min(widened.length, trapped.length) - MOST_PLACES * unit;
+            if (from < 0 || from >= MOST_PLACES || to < 0 || to >= MOST_PLACES || unit < 1) {
+                return;
+            }
+            for (int block = 0; block <= last; block += MOST_PLACES * unit) {
+                for (int row = block; row < block + unit; row++) {
+                    widened[row + from * unit] |= trapped[row + to * unit];
+                }
+            }
         }
 
         /** Whether there are stands that are won in so many rounds, and not in fewer. */
