@@ -1,7 +1,7 @@
 import java.util.function.Supplier;
 import java.util.function.ToIntFunction;
 
-/** Tests of boundary cases: each is named by its promise's number and the document's own words. */
+/** Tests of boundary cases: each is named by its promise's number and the document's words, shortened at need. */
 final class Edge {
     static final int NONE = -1, UNKNOWN = -2, OUTSIDE = -3, NOT = -4, FULL = -5;
     /** Numbers that are too small or too large for anything, some of them 0 or 1 in their lowest bits. */
