@@ -88,7 +88,7 @@ public final class TextTests {
         return (kind < 5 ? "road" : "way") + gap + a + gap + b;
     }
 
-    private static int fault(String text, int places) {
+    static int fault(String text, int places) {
         Matcher matcher = TOKEN.matcher(text);
         List<String> tokens = new ArrayList<>();
         List<Integer> starts = new ArrayList<>();
@@ -133,8 +133,8 @@ public final class TextTests {
         }
     }
 
-    /** Lays a text without fault: how many places there are then. */
-    private static int lay(String text, int places, boolean[][] road) {
+    /** Lays a text without fault on roads of eight places: how many places there are then. */
+    static int lay(String text, int places, boolean[][] road) {
         int n = places;
         for (String line : text.split(";")) {
             String digits = line.replaceAll("[^0-9]", "");
